@@ -711,6 +711,7 @@ public final class PromiseTest {
         for (int place = 0; place < 7; place++) {
             for (int sign = 0; sign < 256; sign++) {
                 String text = right.substring(0, place) + (char) sign + right.substring(place + 1);
+                x = new AbreastQuay();
                 feedText(x, text);
                 boolean stands = signs[place].indexOf(sign) >= 0;
                 due("24 sign " + sign + " at " + place, x.text(), stands ? 1 : WRONG - place);
