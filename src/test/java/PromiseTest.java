@@ -394,6 +394,9 @@ public final class PromiseTest {
         due("12 over", x.over(0), 20);
         due("12 fault", x.fault(0), 1);
         due("12 inside is not asked", x.between(3, 0, 2), 0);
+        due("12 all farther out are asked", x.between(0, 0, 0), KIND);
+        due("12 over", x.over(15), 0);
+        due("12 they lie right now", x.between(0, 0, 0), 3);
     }
 
     private static void promise13Goes() {
@@ -539,6 +542,14 @@ public final class PromiseTest {
     }
 
     private static void promise18Lies() {
+        AbreastQuay six = wide(4, 6);
+        int[] berths = {0, 0, 1, 1, 2, 3};
+        int[] places = {0, 1, 0, 1, 0, 0};
+        due("18 pairs", six.plan(0b111111), 2);
+        for (int boat = 0; boat < 6; boat++) {
+            due("18 berth of " + boat, six.lies(0b111111, boat, false), berths[boat]);
+            due("18 place of " + boat, six.lies(0b111111, boat, true), places[boat]);
+        }
         AbreastQuay x = wide(2, 8);
         due("18 berth", x.lies(0b101, 2, false), 1);
         due("18 place", x.lies(0b101, 2, true), 0);
