@@ -1061,14 +1061,15 @@ public final class AbreastQuay {
             return width == 0;
         }
 
+        /** Promise 26: n is asked whatever the bits, for findings go before what the act does. */
         int begin(int bits, int n) {
             if (bits != 0 && bits != 8 && bits != 16 && bits != 32) {
                 return BEYOND;
             }
-            if (bits != 0 && n < 0) {
+            if (n < 0) {
                 return SIZE;
             }
-            if (bits != 0 && n > numbers.length) {
+            if (n > numbers.length) {
                 return BEYOND;
             }
             width = bits;

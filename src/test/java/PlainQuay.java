@@ -538,16 +538,16 @@ final class PlainQuay {
         if (s < 0 || s > 3 || width != 0 && width != 8 && width != 16 && width != 32) {
             return BEYOND;
         }
-        if (width == 0) {
-            bits[s] = 0;
-            sheets[s] = null;
-            return 0;
-        }
         if (n < 0) {
             return SIZE;
         }
         if (n > 8) {
             return BEYOND;
+        }
+        if (width == 0) {
+            bits[s] = 0;
+            sheets[s] = null;
+            return 0;
         }
         bits[s] = width;
         sheets[s] = new int[n];

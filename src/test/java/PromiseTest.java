@@ -811,9 +811,35 @@ public final class PromiseTest {
         due("26 missing", x.sheet(0, 0, 3), 0);
         due("26 it is", x.write(0, 0, 1), MISSING);
         due("26 missing again", x.sheet(0, 0, 0), 0);
-        due("26 missing, n not asked", x.sheet(1, 0, -1), 0);
-        due("26 missing, n not asked", x.sheet(2, 0, 9), 0);
-        due("26 it is", x.write(1, 0, 1) + x.write(2, 0, 1), 2 * MISSING);
+        due("26 missing, n is the most", x.sheet(1, 0, 8), 0);
+        due("26 it is", x.write(1, 0, 1), MISSING);
+        promise26FindingsForAllBits();
+    }
+
+    /** Each n that is refused, for each bits that are allowed, at sheets of each bits, which stay as they are. */
+    private static void promise26FindingsForAllBits() {
+        int[] widths = {0, 8, 16, 32};
+        for (int was : widths) {
+            for (int bits : widths) {
+                AbreastQuay x = new AbreastQuay();
+                due("26 before", x.sheet(1, was, 2), was == 0 ? 0 : 2);
+                due("26 a number before", x.write(1, 1, 77), was == 0 ? MISSING : 0);
+                int findings = x.told(7);
+                String call = "26 of " + was + " bits, now " + bits;
+                due(call + ", below 0", x.sheet(1, bits, -1), SIZE);
+                due(call + ", least", x.sheet(1, bits, MIN), SIZE);
+                due(call + ", above 8", x.sheet(1, bits, 9), BEYOND);
+                due(call + ", most", x.sheet(1, bits, MAX), BEYOND);
+                due(call + ", no such sheet before SIZE", x.sheet(4, bits, -1), BEYOND);
+                due(call + ", no such sheet before SIZE", x.sheet(-1, bits, -1), BEYOND);
+                due(call + ", findings", x.told(7), findings + 6);
+                due(call + ", unchanged", x.write(1, 1, 77), was == 0 ? MISSING : 77);
+                due(call + ", as many", x.write(1, 2, 1), was == 0 ? MISSING : BEYOND);
+                due(call + ", least that is right", x.sheet(1, bits, 0), 0);
+                due(call + ", most that is right", x.sheet(1, bits, 8), bits == 0 ? 0 : 8);
+                due(call + ", it is so", x.write(1, 7, 1), bits == 0 ? MISSING : 0);
+            }
+        }
     }
 
     private static void promise27Write() {
