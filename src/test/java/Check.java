@@ -1,16 +1,29 @@
 /** Compares answers with those that are due, prints the others, and ends a test. */
 final class Check {
+    private static String test = "";
     private static int asked = 0;
+    private static int askedBefore = 0;
     private static int wrong = 0;
 
     private Check() {
+    }
+
+    /** What is asked from here on is of the test of this name. */
+    static void begin(String name) {
+        test = name + ": ";
+        askedBefore = asked;
+    }
+
+    /** A test that asks nothing could not fail, so it is wrong itself. */
+    static void finish() {
+        holds("something was asked", asked > askedBefore);
     }
 
     static void due(String call, long got, long want) {
         asked++;
         if (got != want) {
             wrong++;
-            System.out.println(call + " answered " + got + ", due is " + want);
+            System.out.println(test + call + " answered " + got + ", due is " + want);
         }
     }
 
@@ -18,7 +31,7 @@ final class Check {
         asked++;
         if (!is) {
             wrong++;
-            System.out.println("does not hold: " + what);
+            System.out.println(test + "does not hold: " + what);
         }
     }
 
