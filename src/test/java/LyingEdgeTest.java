@@ -384,6 +384,43 @@ public final class LyingEdgeTest extends Edges {
         refuses(KIND, () -> two(BOAT, 40, RALLY, 1), "not if one is no CLUB boat", x -> x.between(1, 0, 0));
     }
 
+    /** 2 came outside of 1 by an OVER that was greater: it is asked anew, though 1 stays next inside of it. */
+    static void promise12OneFartherOutThatLiesNotRightAsItIs() {
+        for (int over = 9; over <= 10; over++) {
+            int o = over;
+            Supplier<AbreastQuay> state = () -> {
+                AbreastQuay x = Given.wide(1, 0);
+                int[] lengths = {10, 5, 15, 20};
+                for (int i = 0; i < lengths.length; i++) {
+                    due("boat", x.boat(BOAT, lengths[i], 0, false), i);
+                }
+                due("over", x.over(10), 0);
+                due("they come", x.comes(0, 0) * 100 + x.comes(1, 0) * 10 + x.comes(2, 0), 12);
+                due("over", x.over(o), 10);
+                return x;
+            };
+            if (over == 9) {
+                refuses(KIND, state, "15 outside of 5 and OVER 9", x -> x.between(3, 0, 0));
+            } else {
+                due("15 outside of 5 and OVER 10", state.get().between(3, 0, 0), 3);
+            }
+        }
+    }
+
+    /** At BERTH 1 two lie as far out as they may, and one outside of a shorter one: they stay where they are. */
+    static void promise12OtherBerthsAreNotAsked() {
+        AbreastQuay x = Given.wide(1, 2);
+        due("berth", x.berth(90, 0, 2, 2), 1);
+        due("POWER", x.boat(BOAT, 10, 0, true), 2);
+        due("long, with POWER", x.boat(BOAT, 30, 0, true), 3);
+        due("over", x.over(20), 0);
+        due("they come", x.comes(0, 0) + x.comes(2, 1) + x.comes(3, 1), 1);
+        due("over", x.over(0), 20);
+        due("at BERTH 0", x.between(1, 0, 0), 1);
+        due("at BERTH 1", x.at(1, 0) * 10 + x.at(1, 1), 23);
+        due("none was moved there", x.of(2, 10) + x.of(3, 10), 0);
+    }
+
     static void promise12OverIsAskedOfBothNeighbours() {
         for (int over = 0; over <= 2; over++) {
             AbreastQuay x = Given.wide(1, 0);

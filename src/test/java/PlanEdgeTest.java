@@ -229,6 +229,28 @@ public final class PlanEdgeTest extends Edges {
         placed("the last to leave lies at the quay", x, 0b111111, 0, 5, 4, 3, 2, 1, 0);
     }
 
+    /** What a plan found is not kept: the same set is asked again after each number that it hangs on has changed. */
+    static void promise17ThePlacingIsFoundAnew() {
+        AbreastQuay x = Given.wide(0, 0);
+        due("short", x.boat(BOAT, 10, 0, false), 0);
+        due("a short CAT", x.boat(CAT, 11, 0, false), 1);
+        due("no BERTH", x.plan(0b11), NONE);
+        due("berth", x.berth(90, 0, 2, 0), 0);
+        due("the CAT is too long", x.plan(0b11), NONE);
+        due("over", x.over(1), 0);
+        placed("the CAT outside", x, 0b11, 1, 0, 1);
+        due("over", x.over(0), 1);
+        due("the CAT is too long again", x.plan(0b11), NONE);
+        due("leaves", x.leaves(0, 9, 9) + x.leaves(1, 9, 9) + x.over(20), 2);
+        placed("no PAIR moves", x, 0b11, 0, 0, 1);
+        due("leaves", x.leaves(0, 8, 9), 1);
+        placed("a PAIR moves maybe", x, 0b11, 1, 0, 1);
+        due("berth", x.berth(90, 0, 1, 0), 1);
+        placed("each at a BERTH", x, 0b11, 0, 0, 10);
+        placed("one alone", x, 0b10, 0, 0);
+        placed("both again", x, 0b11, 0, 0, 10);
+    }
+
     static void promise17PlanChangesNothing() {
         onlyTells(0, BUSY, "1 outside of 0, and one at each other BERTH", x -> x.plan(0b0011011));
         onlyTells(15, () -> Given.row(6, 6), "a full row", x -> x.plan(0b111111));
